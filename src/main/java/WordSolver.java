@@ -47,6 +47,8 @@ public final class WordSolver {
     // A word is held as the number whose binary digits are a 1 and, behind it, its letters: so the
     // order of the numbers is the order of the words, and 1 is the word without letters.
     private static final int NO_LETTERS = 1;
+    private static final int WORD_ZERO = 2;
+    private static final int WORD_ONE = 3;
     private static final int WORDS = 15;
     private static final int TRIALS = WORDS * WORDS * WORDS;
     private static final int NO_TRIAL = -1;
@@ -523,15 +525,20 @@ public final class WordSolver {
         return a >= -FACTOR_LIMIT && a <= FACTOR_LIMIT;
     }
 
-    /** A trial gives a word to each unknown; the trials are in the order of their words. */
-    private static int wordIn(int trial, int unknown) {
-        if (unknown == 0) {
-            return NO_LETTERS + trial / (WORDS * WORDS);
+    /** The word of a sign in a trial; the trials are in the order of the words for the unknowns. */
+    private static int wordIn(int trial, int s) {
+        switch (s) {
+            case 0:
+                return NO_LETTERS + trial / (WORDS * WORDS);
+            case 1:
+                return NO_LETTERS + trial / WORDS % WORDS;
+            case 2:
+                return NO_LETTERS + trial % WORDS;
+            case SIGN_ZERO:
+                return WORD_ZERO;
+            default:
+                return WORD_ONE;
         }
-        if (unknown == 1) {
-            return NO_LETTERS + trial / WORDS % WORDS;
-        }
-        return NO_LETTERS + trial % WORDS;
     }
 
     private static int lengthIn(int trial, int unknown) {
@@ -543,7 +550,7 @@ public final class WordSolver {
         return lengthIn(trial, 0) + lengthIn(trial, 1) + lengthIn(trial, 2);
     }
 
-    /** The length of a word for an unknown. */
+    /** The length of a word of at most 3 letters. */
     private static int lengthOf(int word) {
         if (word < 2) {
             return 0;
@@ -582,30 +589,23 @@ public final class WordSolver {
     }
 
     private boolean keepsBound(int trial, int b) {
-        int sum = boundA[b] * lengthIn(trial, 0)
-            + boundB[b] * lengthIn(trial, 1)
-            + boundC[b] * lengthIn(trial, 2);
+        int word0 = wordIn(trial, 0);
+        int word1 = wordIn(trial, 1);
+        int word2 = wordIn(trial, 2);
+        int sum = boundA[b] * lengthOf(word0)
+            + boundB[b] * lengthOf(word1)
+            + boundC[b] * lengthOf(word2);
         return sum <= boundD[b];
     }
 
     private boolean keepsDemand(int trial, int d) {
         int term = NO_LETTERS;
         for (int i = 0; i < demandSignCounts[d]; i++) {
-            int word = wordOfSign(trial, demandSigns[d * TERM_LIMIT + i]);
+            int word = wordIn(trial, demandSigns[d * TERM_LIMIT + i]);
             int length = lengthOf(word);
             term = (term << length) + word - (1 << length);
         }
         return isWordOf(demandPatterns[d], term) == demandKept[d];
-    }
-
-    private static int wordOfSign(int trial, int s) {
-        if (s == SIGN_ZERO) {
-            return 2;
-        }
-        if (s == SIGN_ONE) {
-            return 3;
-        }
-        return wordIn(trial, s);
     }
 
     private boolean isWordOf(int k, int word) {

@@ -15,6 +15,7 @@ public final class SolutionTest {
         solutions();
         first();
         lengthsAndDifferent();
+        ends();
         ofLength();
         wrongUnknowns();
         Due.end();
@@ -308,6 +309,36 @@ public final class SolutionTest {
             Due.eq("lengths without a solution", x.lengths(i), 0);
             Due.eq("different without a solution", x.different(i), 0);
         }
+    }
+
+    /** Where the least or the greatest trial is all that counts. */
+    private static void ends() {
+        WordSolver x = new WordSolver();
+        x.bound(1, 1, 1, 0);
+        Due.eq("only empty words", x.solutions(), 1);
+        for (int i = 0; i < 3; i++) {
+            Due.eq("only empty words: lengths", x.lengths(i), 1);
+            Due.eq("only empty words: different", x.different(i), 1);
+        }
+        firstIs("only empty words", x, "", "", "");
+        x.drop(1);
+        x.bound(-1, -1, -1, -9);
+        Due.eq("only words of 3", x.solutions(), 512);
+        firstIs("only words of 3", x, "000", "000", "000");
+        Make.push(x, "11.1.");
+        x.place(0);
+        for (int i = 0; i < 3; i++) {
+            Make.demand(x, "" + i, 0, 1);
+        }
+        Due.eq("only 111", x.solutions(), 1);
+        firstIs("only 111", x, "111", "111", "111");
+        WordSolver y = Make.placed("??.?.");
+        Make.demand(y, "0", 0, 0);
+        y.bound(-1, 0, 0, -3);
+        Due.eq("nothing but words of 3 has 3 letters or more", y.solutions(), 0);
+        Due.eq("nothing but words of 3 has 3 letters or more", y.lengths(0), 0);
+        Due.eq("nothing but words of 3 has 3 letters or more", y.different(1), 0);
+        Due.eq("nothing but words of 3 has 3 letters or more", y.length(0), NONE);
     }
 
     private static void ofLength() {
