@@ -26,8 +26,9 @@ public final class WordSolver {
     private static final int ALL_STATES = PLACES * STATES;
     private static final int ALL_STEPS = ALL_STATES * 2;
 
-    // A pattern with a word longer than its size comes to a position twice in it, so it is endless;
-    // and an endless one has such a word that is longer by at most one such round.
+    // A word longer than the greatest size comes to a position twice, and what lies between can be
+    // repeated, so the pattern is endless; and the shortest such word of an endless pattern is
+    // longer than that size by no more than what can be left out of it, at most as many letters.
     private static final int SHORTEST_ENDLESS = SIZE_LIMIT + 1;
     private static final int LONGEST_ENDLESS = SIZE_LIMIT + SIZE_LIMIT;
     private static final int LONGEST_COUNTED = 20;
