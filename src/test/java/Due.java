@@ -6,14 +6,18 @@ final class Due {
     }
 
     static void eq(String call, long got, long want) {
-        if (got != want) {
-            wrong++;
-            System.out.println(call + " answered " + got + ", due is " + want);
-        }
+        alike(call, got, want);
     }
 
     static void is(String call, boolean got, boolean want) {
-        eq(call, got ? 1 : 0, want ? 1 : 0);
+        alike(call, got, want);
+    }
+
+    static void alike(String call, Object got, Object want) {
+        if (!got.equals(want)) {
+            wrong++;
+            System.out.println(call + " answered " + got + ", due is " + want);
+        }
     }
 
     static void end() {
